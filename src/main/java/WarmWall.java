@@ -822,8 +822,10 @@ public final class WarmWall {
 
         /** A number, or NONE: no digit stands here, or one too many. No blank behind it is passed. */
         final int digits(int most) {
-            int number = sign() == END ? NONE : 0;
+            int number = 0;
             int read = 0;
+            // blanks may stand ahead of a number, none within
+            sign();
             while (place < tape.length && tape.bytes[place] >= '0' && tape.bytes[place] <= '9') {
                 if (read == most) {
                     return NONE;
@@ -1109,6 +1111,7 @@ public final class WarmWall {
         }
 
         int worth(int hour, int row, int column, int sort) {
+            // place 0 stays below all numbers, so that the top may always be looked at
             int top = 0;
             boolean isPassedOver = false;
             for (int at = 0; at < size && top >= 0 && top < stack.length - 1; at++) {
@@ -1117,7 +1120,6 @@ public final class WarmWall {
                     isPassedOver = sign != ';';
                     continue;
                 }
-                // the place below the first one is never used, so that top - 1 may be looked at
                 switch (sign) {
                     case ';':
                         return stack[top];
@@ -1379,7 +1381,7 @@ public final class WarmWall {
 
         /** The law behind those told; with all told it is the one place more. */
         Law draft() {
-            return laws[lawsTold >= 0 && lawsTold < laws.length ? lawsTold : laws.length - 1];
+            return laws[Math.min(lawsTold, MOST_LAWS)];
         }
 
         void obey(int law) {
