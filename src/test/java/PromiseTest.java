@@ -1,16 +1,7 @@
-import java.util.NoSuchElementException;
-
 /** Each promise by answers worked out by hand: ordinary inputs, the edges that the document names, wrong inputs. */
-public final class PromiseTest {
-    private static final int NONE = WarmWall.NONE;
-    private static final int HIDDEN = WarmWall.HIDDEN;
-
+public final class PromiseTest extends Bench {
     /** Gives all at once and takes no sun; an oven warms it the whole night long, 8 in its cell and 4 beside it. */
     private static final String NIGHT = "st0h99g10;of19u4h8;lAA";
-
-    private static int passed;
-    private static int failed;
-    private static String promise = "";
 
     public static void main(String[] args) {
         newObject();
@@ -50,73 +41,11 @@ public final class PromiseTest {
         steady();
         image();
         count();
-        System.out.println("PromiseTest: " + passed + " passed, " + failed + " failed");
-        if (failed > 0) {
-            System.exit(1);
-        }
-    }
-
-    private static void due(String call, long got, long want) {
-        if (got == want) {
-            passed++;
-        } else {
-            failed++;
-            System.out.println(promise + ": " + call + " answered " + got + ", due is " + want);
-        }
-    }
-
-    private static void due(String call, boolean got, boolean want) {
-        due(call, got ? 1 : 0, want ? 1 : 0);
-    }
-
-    private static void dueThrow(WarmWall x, int cell, int what) {
-        int thrown = 0;
-        try {
-            x.cell(cell, what);
-        } catch (NoSuchElementException e) {
-            thrown = 1;
-        }
-        due("cell(" + cell + ", " + what + ") throws", thrown, 1);
-    }
-
-    /** Feeds a text; how many bytes the tape has then. */
-    private static int put(WarmWall x, String text) {
-        int length = 0;
-        for (int from = 0; from < text.length(); from += 20) {
-            int[] words = new int[5];
-            for (int k = 0; k < 20 && from + k < text.length(); k++) {
-                words[k / 4] |= (text.charAt(from + k) & 255) << 24 - 8 * (k % 4);
-            }
-            length = x.feed(words[0], words[1], words[2], words[3], words[4]);
-        }
-        return length;
-    }
-
-    private static WarmWall wall(String text) {
-        WarmWall x = new WarmWall();
-        put(x, text);
-        due("text(0) of " + text, x.text(0) > 0, true);
-        return x;
-    }
-
-    private static int tellLaw(WarmWall x, String text) {
-        x.end(0);
-        put(x, text);
-        return x.text(1);
-    }
-
-    private static int faultOf(String text, int sort) {
-        WarmWall x = new WarmWall();
-        put(x, text);
-        return x.fault(sort);
-    }
-
-    private static void dueFault(int sort, String text, int want) {
-        due("fault(" + sort + ") of " + text, faultOf(text, sort), want);
+        close("PromiseTest");
     }
 
     private static void newObject() {
-        promise = "1 a new object";
+        about("1 a new object");
         WarmWall x = new WarmWall();
         int[] counts = {0, 0, 0, 0, 0, 0, 0, 0, NONE, 0, 0, 0};
         for (int what = 0; what < counts.length; what++) {
@@ -144,7 +73,7 @@ public final class PromiseTest {
     }
 
     private static void feed() {
-        promise = "2 feed";
+        about("2 feed");
         WarmWall x = new WarmWall();
         due("nothing but bytes of 0", x.feed(0, 0, 0, 0, 0), 0);
         due("s between bytes of 0", x.feed(0, 's' << 16, 0, 0, 0), 1);
@@ -168,7 +97,7 @@ public final class PromiseTest {
     }
 
     private static void end() {
-        promise = "3 end";
+        about("3 end");
         WarmWall x = new WarmWall();
         due("end(0) of nothing", x.end(0), true);
         due("end(1) of nothing", x.end(1), false);
@@ -185,7 +114,7 @@ public final class PromiseTest {
     }
 
     private static void faultOfWalls() {
-        promise = "4 fault of a wall";
+        about("4 fault of a wall");
         due("fault(2)", new WarmWall().fault(2), -2);
         due("fault(-1)", new WarmWall().fault(-1), -2);
         String[] good = {
@@ -248,7 +177,7 @@ public final class PromiseTest {
     }
 
     private static void faultOfLaws() {
-        promise = "4 fault of a law";
+        about("4 fault of a law");
         String[] good = {
             "y:1", " y : 9999 ", "y:h+r-c*d/s", "y:[h]", "y:h=1?2", "y:h<1|r>2&c=3?d", "y:!h=1?2", "y:(h=1)?2",
             "y:!(h=1|!r=2)&c=3?4", "y:[h+1]*2=3?4", "y:1;y:2", "y:h=1?1;y:2", "y:[[[[[[1]]]]]]", "y:!!!!!!h=1?1",
@@ -299,7 +228,7 @@ public final class PromiseTest {
     }
 
     private static void text() {
-        promise = "5 text";
+        about("5 text");
         WarmWall x = new WarmWall();
         due("text(0) of nothing", x.text(0), NONE);
         put(x, "sh9t2;lAA;lAA;o;n");
@@ -345,7 +274,7 @@ public final class PromiseTest {
     }
 
     private static void cell() {
-        promise = "6 cell";
+        about("6 cell");
         WarmWall x = wall("st1h9g10;st2h50g5;lAB;lBA");
         due("sort", x.cell(0, 0), 0);
         due("sort", x.cell(1, 0), 1);
@@ -372,7 +301,7 @@ public final class PromiseTest {
     }
 
     private static void stoneOvenSleeper() {
-        promise = "7 stone";
+        about("7 stone");
         WarmWall x = wall("s;st1h2g4;lAB;lAA;o;or1c1f22u3h20;n;nw12f9");
         int[][] stones = {{3, 60, 3, NONE}, {1, 2, 4, NONE}};
         for (int what = -1; what < 4; what++) {
@@ -381,7 +310,7 @@ public final class PromiseTest {
                 due("stone(" + sort + ", " + what + ")", x.stone(sort, what), want);
             }
         }
-        promise = "8 oven";
+        about("8 oven");
         int[][] ovens = {{0, 4, 7, 8, 0, NONE}, {11, 22, 3, 20, 1, NONE}};
         for (int what = -1; what < 6; what++) {
             for (int oven = -1; oven < 3; oven++) {
@@ -396,7 +325,7 @@ public final class PromiseTest {
         }
         x.bake(0, 0, 0);
         due("alike: never", x.oven(0, 4), 0);
-        promise = "9 sleeper";
+        about("9 sleeper");
         int[][] sleepers = {{5, 0, NONE}, {12, 9, NONE}};
         for (int what = -1; what < 3; what++) {
             for (int sleeper = -1; sleeper < 3; sleeper++) {
@@ -407,7 +336,7 @@ public final class PromiseTest {
     }
 
     private static void law() {
-        promise = "10 law";
+        about("10 law");
         WarmWall x = wall("s;lA");
         due("law(0)", x.law(0), false);
         tellLaw(x, "y:7");
@@ -427,17 +356,13 @@ public final class PromiseTest {
     }
 
     private static void dueSun(String law, int hour, int cell, int want) {
-        WarmWall x = wall("s;s;s;lABC;lCBA");
-        due("text(1) of " + law, tellLaw(x, law), 0);
-        x.law(0);
-        for (int rest = hour; rest > 0; rest -= 72) {
-            x.hours(Math.min(rest, 72));
-        }
+        WarmWall x = wall("s;s;s;lABC;lCBA", law);
+        pass(x, hour);
         due("sun by " + law + " on " + cell + " at " + hour, x.cell(cell, 2), want);
     }
 
     private static void lawWorths() {
-        promise = "10 worth of a law";
+        about("10 worth of a law");
         dueSun("y:8", 0, 0, 8);
         dueSun("y:10", 0, 0, 9);
         dueSun("y:0-5", 0, 0, 0);
@@ -484,7 +409,7 @@ public final class PromiseTest {
     }
 
     private static void rain() {
-        promise = "11 rain";
+        about("11 rain");
         WarmWall x = wall("st0h99g0;lA");
         due("rain(0, false)", x.rain(0, false), false);
         due("rain(24, true)", x.rain(24, true), false);
@@ -506,7 +431,7 @@ public final class PromiseTest {
     }
 
     private static void warm() {
-        promise = "12 warm";
+        about("12 warm");
         WarmWall x = wall("sh9;sh20;lAB");
         due("warm(0, 9)", x.warm(0, 9), true);
         due("warm(0, 10)", x.warm(0, 10), false);
@@ -523,7 +448,7 @@ public final class PromiseTest {
     }
 
     private static void bake() {
-        promise = "13 bake";
+        about("13 bake");
         WarmWall x = wall("s;lA;o;o");
         due("bake(1, 0, 23)", x.bake(1, 0, 23), true);
         due("bake(1, 23, 0)", x.bake(1, 23, 0), true);
@@ -541,7 +466,7 @@ public final class PromiseTest {
     }
 
     private static void hours() {
-        promise = "14 hours";
+        about("14 hours");
         WarmWall x = wall("st1h99g0;lA");
         due("hours(0)", x.hours(0), NONE);
         due("hours(73)", x.hours(73), NONE);
@@ -554,7 +479,7 @@ public final class PromiseTest {
     }
 
     private static void undo() {
-        promise = "15 undo";
+        about("15 undo");
         WarmWall x = wall("st1h99g0;lA");
         due("undo()", x.undo(), NONE);
         x.hours(10);
@@ -576,7 +501,7 @@ public final class PromiseTest {
     }
 
     private static void anHour() {
-        promise = "16 an hour";
+        about("16 an hour");
         WarmWall x = wall("st0h99g10;lAAA");
         x.warm(1, 40);
         due("a fourth to each beside it", x.ahead(0, 1, 0), 10);
@@ -612,7 +537,7 @@ public final class PromiseTest {
     }
 
     private static void ahead() {
-        promise = "16 ahead";
+        about("16 ahead");
         WarmWall x = wall("st1h99g0;lA");
         due("behind 9", x.ahead(0, 9, 0), 5);
         due("behind 72", x.ahead(0, 72, 0), 99);
@@ -632,7 +557,7 @@ public final class PromiseTest {
     }
 
     private static void air() {
-        promise = "17 air";
+        about("17 air");
         WarmWall x = wall("st0h99g10;lAAA");
         x.warm(1, 40);
         due("air(1)", x.air(1), 20);
@@ -643,7 +568,7 @@ public final class PromiseTest {
     }
 
     private static void comfort() {
-        promise = "18 comfort";
+        about("18 comfort");
         WarmWall x = wall(NIGHT + ";n;nw99f9");
         due("comfort(0, 0)", x.comfort(0, 0), 6);
         due("comfort(0, 1)", x.comfort(0, 1), 3);
@@ -667,7 +592,7 @@ public final class PromiseTest {
     }
 
     private static void choice() {
-        promise = "19 choice";
+        about("19 choice");
         WarmWall x = wall(NIGHT + ";n;n;n");
         due("choice(0)", x.choice(0), 0);
         due("choice(1)", x.choice(1), 1);
@@ -683,7 +608,7 @@ public final class PromiseTest {
     }
 
     private static void most() {
-        promise = "20 most";
+        about("20 most");
         WarmWall x = wall(NIGHT + ";n;n;n");
         due("most(0)", x.most(0), 1);
         due("most(1)", x.most(1), 4);
@@ -709,7 +634,7 @@ public final class PromiseTest {
     }
 
     private static void changed() {
-        promise = "21 changed";
+        about("21 changed");
         WarmWall x = wall("st0h10g10;st0h99g0;lBB");
         x.warm(0, 8);
         x.warm(1, 20);
@@ -738,7 +663,7 @@ public final class PromiseTest {
     }
 
     private static void laid() {
-        promise = "22 laid";
+        about("22 laid");
         WarmWall x = wall(NIGHT + ";st0h99g0");
         x.warm(0, 50);
         due("laid(0)", x.laid(0), 11);
@@ -767,7 +692,7 @@ public final class PromiseTest {
     }
 
     private static void touched() {
-        promise = "23 touched";
+        about("23 touched");
         WarmWall x = wall("s;lAA");
         due("n 48, v 99", x.touched(1, 48, 99), 1);
         due("n 49", x.touched(0, 49, 0), NONE);
@@ -783,7 +708,7 @@ public final class PromiseTest {
     }
 
     private static void fits() {
-        promise = "24 fits";
+        about("24 fits");
         WarmWall x = wall("st1h99g0;st2h99g0;st2h7g0;lAA");
         due("nothing is touched", x.fits(0), 7);
         due("fits(2)", x.fits(2), NONE);
@@ -806,7 +731,7 @@ public final class PromiseTest {
     }
 
     private static void touch() {
-        promise = "25 touch";
+        about("25 touch");
         WarmWall x = wall("st1h99g0;st2h99g0;st1h99g0;lAA");
         due("all alike: the least", x.touch(1, 8, 0), 0);
         due("all alike", x.touch(1, 8, 1), 1);
@@ -832,7 +757,7 @@ public final class PromiseTest {
     }
 
     private static void without() {
-        promise = "26 without";
+        about("26 without");
         WarmWall x = wall("st0h99g10;lA;of0u2h8;of0u1h5");
         due("without(0, 1)", x.without(0, 1), 0);
         due("without(0, 2)", x.without(0, 2), 8);
@@ -849,7 +774,7 @@ public final class PromiseTest {
     }
 
     private static void coldest() {
-        promise = "27 coldest";
+        about("27 coldest");
         WarmWall x = wall("st0h99g10;lAA;of1u2h8");
         x.warm(0, 40);
         // 40 -> 10 -> 2 and 8 and 4 -> less -> ...
@@ -869,7 +794,7 @@ public final class PromiseTest {
     }
 
     private static void frost() {
-        promise = "28 frost";
+        about("28 frost");
         WarmWall x = wall("st1h99g0;lAAA");
         x.warm(1, 1);
         x.warm(2, 3);
@@ -886,7 +811,7 @@ public final class PromiseTest {
     }
 
     private static void spread() {
-        promise = "29 spread";
+        about("29 spread");
         WarmWall x = wall("st1h99g0;st2h99g0;lAAB");
         due("spread(0)", x.spread(0), 0);
         due("spread(9)", x.spread(9), 5);
@@ -898,7 +823,7 @@ public final class PromiseTest {
     }
 
     private static void timing() {
-        promise = "30 timing";
+        about("30 timing");
         WarmWall x = wall("st0h99g10;of0u9h8;lA;n");
         due("timing(0, 0, 0)", x.timing(0, 0, 0), 19);
         due("timing(0, 0, 1)", x.timing(0, 0, 1), 8);
@@ -917,7 +842,7 @@ public final class PromiseTest {
     }
 
     private static void flow() {
-        promise = "31 flow";
+        about("31 flow");
         WarmWall x = wall("st0h99g10;lAAA;lAAA;of1u2h8");
         x.warm(1, 41);
         due("flow(1, 0, 1)", x.flow(1, 0, 1), 10);
@@ -937,7 +862,7 @@ public final class PromiseTest {
     }
 
     private static void giver() {
-        promise = "32 giver";
+        about("32 giver");
         WarmWall x = wall("st0h99g10;lAAA");
         due("all alike: the lowest", x.giver(9, 0), 0);
         due("nothing", x.giver(9, 1), 0);
@@ -955,7 +880,7 @@ public final class PromiseTest {
     }
 
     private static void thaw() {
-        promise = "33 thaw";
+        about("33 thaw");
         WarmWall x = wall("st1h99g0;lA");
         due("thaw(0, 0)", x.thaw(0, 0), 0);
         due("thaw(0, 1)", x.thaw(0, 1), 9);
@@ -976,7 +901,7 @@ public final class PromiseTest {
     }
 
     private static void steady() {
-        promise = "34 steady";
+        about("34 steady");
         WarmWall x = wall("st0h99g0;lA");
         dueSteady(x, 0, 1);
         due("steady(2)", x.steady(2), NONE);
@@ -1004,7 +929,7 @@ public final class PromiseTest {
     }
 
     private static void image() {
-        promise = "35 image";
+        about("35 image");
         WarmWall x = wall("st1h99g0;lA;o");
         due("back()", x.back(), NONE);
         x.hours(9);
@@ -1014,7 +939,7 @@ public final class PromiseTest {
         x.bake(0, 1, 2);
         x.rain(3, true);
         x.touched(0, 0, 0);
-        promise = "36 back";
+        about("36 back");
         due("back()", x.back(), 9);
         due("warmth", x.cell(0, 1), 29);
         due("the hour", x.count(7), 9);
@@ -1034,7 +959,7 @@ public final class PromiseTest {
     }
 
     private static void count() {
-        promise = "37 count";
+        about("37 count");
         WarmWall x = wall("s;s;lAAA;lABA;o;n;n;n");
         tellLaw(x, "y:1");
         put(x, "yy");
