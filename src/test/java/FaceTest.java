@@ -6,6 +6,7 @@ import java.lang.reflect.Modifier;
 import java.nio.file.Files;
 import java.nio.file.Path;
 import java.util.Arrays;
+import java.util.NoSuchElementException;
 import java.util.Set;
 import java.util.TreeSet;
 import java.util.regex.Matcher;
@@ -64,6 +65,10 @@ public final class FaceTest {
                 due(told + " is private", Modifier.isPrivate(method.getModifiers()));
             }
             due(told + " has seven parameters at most", method.getParameterCount() <= 7);
+            boolean isCell = told.toString().equals("int cell(int,int)");
+            Class<?>[] thrown = method.getExceptionTypes();
+            due(told + " tells what it throws", isCell
+                    ? thrown.length == 1 && thrown[0] == NoSuchElementException.class : thrown.length == 0);
         }
         due("the public methods are the document's: " + names, names.equals(new TreeSet<>(Arrays.asList(FACE))));
         for (String method : FACE) {
